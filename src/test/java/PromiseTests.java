@@ -128,9 +128,9 @@ public final class PromiseTests {
         return x;
     }
 
-    /** S: S x; S: nothing, with x 0, S 1, END 2: a reduction with each x. */
+    /** S: nothing; S: S x, with x 0, S 1, END 2: a reduction with each x. */
     private static TableMaker flat() {
-        TableMaker x = grammar(1, 1, rule(1, 1, 0), rule(1));
+        TableMaker x = grammar(1, 1, rule(1), rule(1, 1, 0));
         x.build();
         x.begin();
         return x;
@@ -802,17 +802,17 @@ public final class PromiseTests {
         for (int i = 0; i < 199; i++) {
             x.feed(0);
         }
-        same("the first", 1, x.use(0));
-        same("the second", 0, x.use(1));
-        same("the last of 199", 0, x.use(198));
+        same("the first", 0, x.use(0));
+        same("the second", 1, x.use(1));
+        same("the last of 199", 1, x.use(198));
         refuses("beyond it", ELEMENT, () -> x.use(199));
         x.feed(0);
-        same("the last that is kept", 0, x.use(199));
+        same("the last that is kept", 1, x.use(199));
         refuses("beyond it", ELEMENT, () -> x.use(200));
         x.feed(0);
         same("used", 201, x.used());
         refuses("one that is not kept", ELEMENT, () -> x.use(200));
-        same("the first is still kept", 1, x.use(0));
+        same("the first is still kept", 0, x.use(0));
         for (int bad : WRONG) {
             refuses("use " + bad, ELEMENT, () -> x.use(bad));
         }
