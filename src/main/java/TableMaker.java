@@ -287,7 +287,6 @@ public final class TableMaker {
 
         void forgetAll() {
             productions = 0;
-            begins[0] = 0;
         }
 
         int leftOf(int p) {

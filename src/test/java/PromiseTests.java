@@ -64,7 +64,8 @@ public final class PromiseTests {
         same(what, want ? 1 : 0, got ? 1 : 0);
     }
 
-    private static void refuses(String what, Class<? extends RuntimeException> want, Runnable call) {
+    private static void refuses(String what, Class<? extends RuntimeException> want,
+            Runnable call) {
         String got = "nothing";
         try {
             call.run();
@@ -605,8 +606,8 @@ public final class PromiseTests {
         }
         refuses("first of a terminal", ARGUMENT, () -> x.first(3));
         refuses("first of END", ARGUMENT, () -> x.first(8));
-        TableMaker y = grammar(7, 6, rule(7, 8), rule(8, 9), rule(9, 10), rule(10, 11), rule(11, 12),
-                rule(12, 6));
+        TableMaker y = grammar(7, 6, rule(7, 8), rule(8, 9), rule(9, 10), rule(10, 11),
+                rule(11, 12), rule(12, 6));
         same("through all", 64, y.first(7));
         y.build();
         same("with a table", 64, y.first(7));
@@ -775,13 +776,13 @@ public final class PromiseTests {
     private static void promise20Used() {
         TableMaker x = flat();
         same("begun", 0, x.used());
-        for (int i = 1; i <= 300; i++) {
+        for (int i = 1; i <= 210; i++) {
             x.feed(0);
             same("used after tokens", i, x.used());
         }
         same("depth", 3, x.depth());
         x.finish();
-        same("used in the row", 301, x.used());
+        same("used in the row", 211, x.used());
         x.begin();
         same("used in another row", 0, x.used());
 
