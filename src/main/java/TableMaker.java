@@ -713,6 +713,9 @@ public final class TableMaker {
         // productions that stand open on a full stack ends in nonterminals that make nested empty
         // rows.
         private static final int MOST_STEPS = 100000000;
+        // Far above what 512 calls can use. The count stops there, so that however long an object
+        // is used it never wraps round to a number below 0.
+        private static final int MOST_COUNTED = 2000000000;
 
         private final Grammar grammar;
         private final States states;
@@ -836,7 +839,9 @@ public final class TableMaker {
             if (reductions < MOST_KEPT) {
                 kept[reductions] = p;
             }
-            reductions++;
+            if (reductions < MOST_COUNTED) {
+                reductions++;
+            }
         }
     }
 }

@@ -45,6 +45,7 @@ public final class PromiseTests {
         nestedEmptyRows();
         stackGrowsBeyondSixty();
         reductionsWithoutEnd();
+        exampleOfReadme();
         System.out.println(wrong == 0 ? "all promises hold" : wrong + " answers are wrong");
         if (wrong != 0) {
             System.exit(1);
@@ -885,5 +886,28 @@ public final class PromiseTests {
         same("refused", 3, y.state());
         y.begin();
         same("a next row", 1, y.depth());
+    }
+
+    private static void exampleOfReadme() {
+        TableMaker x = new TableMaker(2, 2);
+        x.production(2);
+        x.symbol(3);
+        x.symbol(3);
+        x.production(3);
+        x.symbol(0);
+        x.symbol(3);
+        x.production(3);
+        x.symbol(1);
+        same("README, build", 10, x.build());
+        x.begin();
+        same("README, c", true, x.feed(0));
+        same("README, d", true, x.feed(1));
+        same("README, d", true, x.feed(1));
+        same("README, finish", true, x.finish());
+        int[] due = {2, 1, 2, 0};
+        same("README, used", due.length, x.used());
+        for (int k = 0; k < due.length; k++) {
+            same("README, use " + k, due[k], x.use(k));
+        }
     }
 }
